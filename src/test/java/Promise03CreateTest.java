@@ -7,6 +7,7 @@ public final class Promise03CreateTest {
     }
     refusesInOrder();
     takesTheLowestFreeNode();
+    keepsTheTargetsBeside();
     Check.end("Promise03CreateTest");
   }
 
@@ -108,5 +109,16 @@ public final class Promise03CreateTest {
     Check.due("create into the first gap", box.create(0, 10, 1), 2);
     Check.due("create into the second gap", box.create(0, 11, 1), 4);
     Check.due("create behind the others", box.create(0, 12, 1), 6);
+  }
+
+  private static void keepsTheTargetsBeside() {
+    CapabilitySandbox box = box(false);
+    Check.link(box, 0, 1, false, 1, 2, 3, 4);
+    Check.make(box, 0, 2, 2);
+    Check.link(box, 0, 3, true, 5, 6, 7, 8);
+    box.unlink(0, 2);
+    Check.path(box, false, 12, 13, 14, 15);
+    Check.changes(box, "create of a link between two", () -> box.create(0, 2, 3), 2,
+        "n2.kind=3", "n2.name=2", "n2.len=4", "n2.0=12", "n2.1=13", "n2.2=14", "n2.3=15", "nodes=4");
   }
 }

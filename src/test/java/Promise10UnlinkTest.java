@@ -3,6 +3,7 @@ public final class Promise10UnlinkTest {
     for (boolean capMode : new boolean[] {false, true}) {
       removes(capMode);
       refuses(capMode);
+      refusesWhatSlotZeroHolds(capMode);
     }
     refusesInOrder();
     Check.end("Promise10UnlinkTest");
@@ -60,6 +61,13 @@ public final class Promise10UnlinkTest {
     Check.due("the slot", empty, 2);
     box.close(1);
     Check.unchanged(box, "unlink of a directory with a child", () -> box.unlink(0, 1), -12);
+  }
+
+  private static void refusesWhatSlotZeroHolds(boolean capMode) {
+    CapabilitySandbox box = box(capMode);
+    box.close(0);
+    Check.due("openAt of a file into slot 0", Check.open(box, 1, 0, 4), 0);
+    Check.unchanged(box, "unlink of what slot 0 holds", () -> box.unlink(1, 4), -11);
   }
 
   private static void refusesInOrder() {
