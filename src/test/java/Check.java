@@ -9,16 +9,31 @@ import java.util.function.IntSupplier;
 /** What the tests share: they count wrong answers here, and end with exit code 1 if there was one. */
 final class Check {
   private static int wrong = 0;
+  private static String sentence = "";
 
   private Check() {}
+
+  /** What follows tests this sentence of the document, which a fault is then told with; promise 0 is the general part. */
+  static void sentence(int promise, String quoted) {
+    sentence = (promise == 0 ? "general part" : "promise " + promise) + ", \"" + quoted + "\": ";
+  }
 
   static void due(String call, int got, int want) {
     if (got != want) report(call + " answered " + got + ", due is " + want);
   }
 
+  /** The call answers as is due; one that throws is a fault like any other, and the test goes on. */
+  static void answers(String call, IntSupplier run, int want) {
+    try {
+      due(call, run.getAsInt(), want);
+    } catch (RuntimeException thrown) {
+      report(call + " threw " + thrown + ", due is " + want);
+    }
+  }
+
   static void report(String fault) {
     wrong++;
-    System.out.println(fault);
+    System.out.println(sentence + fault);
   }
 
   /** The call answers as is due and changes nothing that can be asked. */
@@ -29,7 +44,7 @@ final class Check {
   /** The call answers as is due and changes just these values, each told as "key=new value". */
   static void changes(CapabilitySandbox box, String call, IntSupplier run, int want, String... due) {
     Map<String, Integer> before = snapshot(box);
-    due(call, run.getAsInt(), want);
+    answers(call, run, want);
     TreeSet<String> got = new TreeSet<>();
     for (Map.Entry<String, Integer> now : snapshot(box).entrySet()) {
       if (!now.getValue().equals(before.get(now.getKey()))) got.add(now.getKey() + "=" + now.getValue());
@@ -83,11 +98,12 @@ final class Check {
     return slot;
   }
 
-  /** Ints beyond every range of the document, near its ends included. */
+  /** Ints beyond every range of the document: near the ends of int, and those that a narrower type would wrap into a range. */
   static int[] farOut() {
     return new int[] {
-      Integer.MIN_VALUE, Integer.MIN_VALUE + 1, Integer.MIN_VALUE + 8, -1000, -101, -99, -2,
-      1000, Integer.MAX_VALUE - 8, Integer.MAX_VALUE - 1, Integer.MAX_VALUE
+      Integer.MIN_VALUE, Integer.MIN_VALUE + 1, Integer.MIN_VALUE + 8, -65535, -65536, -1000, -255, -256, -101, -99, -2,
+      128, 129, 256, 257, 264, 1000, 32768, 65536, 65537, 65544, 1 << 30,
+      Integer.MAX_VALUE - 8, Integer.MAX_VALUE - 1, Integer.MAX_VALUE
     };
   }
 
