@@ -17,6 +17,7 @@ public final class Boundary04WalkTest implements Doc {
       putsTargetsInFront(capMode);
       putsTheGreatestTargetsInFront(capMode);
       endsWhenNothingIsPending(capMode);
+      answersTheFailure(capMode);
       takesAnEmptyPathAsTheStart(capMode);
       neverOpensALink(capMode);
     }
@@ -322,6 +323,18 @@ public final class Boundary04WalkTest implements Doc {
     tree.opens(1, 1, 6);
     tree.opens(1, 1, 7);
     tree.opens(2, 1, 7, 2);
+  }
+
+  private static void answersTheFailure(boolean capMode) {
+    Check.sentence(4, "A failure is the answer.");
+    Tree tree = new Tree().link(1, 6, false, 6).inCapMode(capMode);
+    // The first failure on the way ends the walk, whatever would fail behind it.
+    tree.fails(E_NOENT, 0, 14, 4, 1);
+    tree.fails(E_NOTDIR, 0, 4, 14);
+    tree.fails(E_LOOP, 1, 6, 14);
+    if (capMode) tree.fails(E_ESCAPE, 1, UP, 4, 14);
+    else tree.fails(E_NOTDIR, 1, UP, 4, 14);
+    tree.p.status(ST_FDS, 3);
   }
 
   private static void takesAnEmptyPathAsTheStart(boolean capMode) {
